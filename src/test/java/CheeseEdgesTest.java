@@ -201,6 +201,11 @@ public final class CheeseEdgesTest {
         feet("20: 39 of 40 eight times", x, 0, 5352009260481L, 6553600000000L);
         x.put(1, 0, 0, 3);
         feet("20: never a pace at all", x, 0, 1, 1);
+        CheeseHill less = State.FULLEST.make();
+        less.feet(0);
+        less.hill(1, 1);
+        less.runner(0, 0, 0);
+        feet("20: a hill that had more rows: pace 1", less, 0, 39, 40);
         x.cheese(0, 0);
         x.feet(0);
         DUE.is("20: below is above 0", x.part(1), 1);
@@ -322,6 +327,13 @@ public final class CheeseEdgesTest {
         DUE.is("22: lane 5 is left", x.bale(), 5);
         x.put(1, 0, 5, 3);
         DUE.is("22: none is left", x.bale(), -1);
+        CheeseHill first = new CheeseHill();
+        first.hill(2, 1);
+        first.put(0, 0, 0, 9);
+        first.put(0, 1, 0, 6);
+        first.put(1, 1, 0, T);
+        first.runner(4, 0, 0);
+        DUE.is("22: the first cell of all", first.bale(), 0);
         CheeseHill corner = new CheeseHill();
         corner.hill(8, 6);
         for (int r = 0; r < 8; r++) {

@@ -19,6 +19,7 @@ public final class RunnersEdgesTest {
         promise11Down();
         promise11Refused();
         promise12HowMuch();
+        promise12ByLaneAndPace();
         promise12LikeOnes();
         promise12Refused();
         promise13Fall();
@@ -217,6 +218,20 @@ public final class RunnersEdgesTest {
             DUE.is("10: row 1", x.goes(0, 1, 2), start + 29);
             DUE.is("11: DOWN as he leaves the last ROW", x.down(0, 0), start + 57);
         }
+        // Of a hill that had more rows nothing is left.
+        CheeseHill less = State.FULLEST.make();
+        less.clashes();
+        less.hill(1, 2);
+        less.runner(2, 0, 0);
+        less.runner(2, 1, 0);
+        less.line(1, 0, 1);
+        DUE.is("11: harm of one row", less.down(0, 1), 1);
+        DUE.is("15: at the foot nobody clashes", less.clashes(), 0);
+        CheeseHill tumbled = lane(2, 9, G, 9, G, 9, G);
+        tumbled.down(0, 1);
+        tumbled.hill(1, 1);
+        tumbled.runner(0, 0, 0);
+        DUE.is("11: harm of one row, where a tumbler had three", tumbled.down(0, 1), 0);
         CheeseHill slow = lane(0, 0, N, 0, N, 0, N, 0, N, 0, N, 0, N, 0, N, 0, N);
         DUE.is("11: the slowest of all ways", slow.down(0, 0), 280);
     }
@@ -300,6 +315,53 @@ public final class RunnersEdgesTest {
             DUE.is("12: w = 19, row " + r, y.best(0, 19, r), over[r]);
             DUE.is("12: w = 20, like: straight on, row " + r, y.best(0, 20, r), 0);
         }
+    }
+
+    /** A hill of so many lanes, flat but for cells of a row, a lane, a slope, a ground. */
+    private static CheeseHill flat(int rows, int lanes, int[]... cells) {
+        CheeseHill x = new CheeseHill();
+        x.hill(rows, lanes);
+        for (int k = 0; k < rows * lanes; k++) {
+            x.put(0, k / lanes, k % lanes, 0);
+        }
+        for (int[] c : cells) {
+            x.put(0, c[0], c[1], c[2]);
+            x.put(1, c[0], c[1], c[3]);
+        }
+        return x;
+    }
+
+    private static void bestSteps(String told, CheeseHill x, int w, int due, int... steps) {
+        DUE.is(told + ": how much", x.best(0, w, -1), due);
+        for (int r = 0; r < steps.length; r++) {
+            DUE.is(told + ": row " + r, x.best(0, w, r), steps[r]);
+        }
+    }
+
+    // each row's s is that of the lane and pace to which the rows ahead of it have led
+    private static void promise12ByLaneAndPace() {
+        CheeseHill there = flat(3, 3, new int[] {1, 2, 9, G}, new int[] {2, 1, 9, G});
+        there.runner(0, 1, 0);
+        bestSteps("12: there and back", there, 0, 30 + 26 + 22, 2, 1, 0);
+        CheeseHill across = flat(6, 6, new int[] {5, 5, 9, G});
+        across.runner(0, 0, 0);
+        bestSteps("12: all lanes across", across, 0, 5 * 30 + 26, 2, 2, 2, 2, 2, 0);
+        CheeseHill back = flat(6, 6, new int[] {5, 0, 9, G});
+        back.runner(0, 5, 0);
+        bestSteps("12: and back", back, 0, 5 * 30 + 26, 1, 1, 1, 1, 1, 0);
+        // bold, 4 into row 1: 9 on the tussock of slope 5, 10 on that of slope 6
+        CheeseHill nine = flat(2, 2, new int[] {0, 0, 9, G}, new int[] {1, 1, 5, T});
+        nine.runner(4, 0, 0);
+        bestSteps("12: pace 9 on a tussock", nine, 20, 26 + 21, 2, 0);
+        CheeseHill ten = flat(2, 2, new int[] {0, 0, 9, G}, new int[] {1, 1, 6, T});
+        ten.runner(4, 0, 0);
+        bestSteps("12: pace 10 on a tussock", ten, 20, 26 + 26, 0, 0);
+        // 5 or 6 into the hollow of the only lane: 6 for row 1 is not worth its harm, from w = 1 on
+        CheeseHill hollow = flat(4, 3, new int[] {0, 1, 9, G}, new int[] {1, 0, 2, G}, new int[] {1, 1, 4, G},
+            new int[] {2, 0, 0, H}, new int[] {2, 1, 0, H}, new int[] {2, 2, 0, H});
+        hollow.runner(0, 1, 0);
+        bestSteps("12: 6 into a hollow, w = 0", hollow, 0, 26 + 24 + 30 + 30, 0, 0, 0, 0);
+        bestSteps("12: 5 into a hollow, w = 1", hollow, 1, 26 + 25 + 30 + 30, 1, 0, 0, 0);
     }
 
     // "of like ones the first (by ROWS, 0 ahead of 1, 2)"
@@ -439,6 +501,19 @@ public final class RunnersEdgesTest {
             DUE.is("14: the last one's start is first", turned.place(k), 5 - k);
             DUE.is("14: like ones in two lots", pairs.place(k), ofPairs[k]);
         }
+        // The greatest hill: eight rows, six runners.
+        CheeseHill great = flat(8, 6, new int[] {7, 2, 9, G}, new int[] {7, 5, 9, G}, new int[] {7, 1, 9, G},
+            new int[] {7, 0, 5, G}, new int[] {7, 4, 5, G}, new int[] {7, 3, 5, G});
+        for (int i = 0; i < 6; i++) {
+            great.runner(0, i, 0);
+        }
+        // 236 in lanes 2, 5, 1 and 238 in 0, 4, 3
+        int[] places = {1, 2, 5, 0, 3, 4};
+        for (int k = 0; k < 6; k++) {
+            DUE.is("14: eight rows, six runners", great.place(k), places[k]);
+            DUE.is("14: his down", great.down(places[k], 0), k < 3 ? 236 : 238);
+        }
+        DUE.is("21: eight rows, six runners", great.catchers(), 18);
         // 30 less pace: by DOWN, not by START
         CheeseHill x = lane(0, 9, G);
         x.runner(2, 0, 6);
@@ -529,6 +604,13 @@ public final class RunnersEdgesTest {
         DUE.is("16: 0 and 5: five times d", apartOf(6, 0, 1, 2, 3, 4, 0), 6);
         DUE.is("16: 1 and 4: three times d", apartOf(6, 0, 1, 2, 3, 1, 5), 10);
         DUE.is("16: 0 and 5, 3 and 4", apartOf(6, 0, 1, 2, 3, 3, 0), 29);
+        for (int start : new int[] {0, 50, 99}) {
+            CheeseHill x = new CheeseHill();
+            x.hill(1, 1);
+            x.runner(0, 0, start);
+            x.runner(0, 0, 99 - start);
+            DUE.is("16: whatever STARTS they have now", x.apart(), 29);
+        }
         // the shared cell: 34 .. 62 and 19 .. 33; 2 later they would meet
         CheeseHill x = new CheeseHill();
         x.hill(2, 2);

@@ -265,10 +265,11 @@ public final class RunsEdgesTest {
             DUE.is("26: eight anew", x.waits(1, 2), 7);
         }
         TWINS.asks("26: heal of none", State.FRESH, CheeseHill::heal, 0);
-        CheeseHill x = State.SMALLEST.make();
+        CheeseHill x = State.MIDDLING.make();
         x.heal();
+        x.hurt(1);
         x.hurt(3);
-        TWINS.alike("26: nothing else goes", x, State.SMALLEST.make());
+        TWINS.alike("26: nothing else goes", x, State.MIDDLING.make());
     }
 
     private static CheeseHill told(int... hurt) {
@@ -303,6 +304,10 @@ public final class RunsEdgesTest {
         DUE.is("27: nobody hurt, but none is there", told(1, 1, 0, 1).waits(2, 4), 2);
         DUE.is("27: the last number counts", told(1, 0, 0, 0, 0, 0, 0, 1).waits(1, 7), 6);
         DUE.is("27: back as it begins", told(1, 1).waits(1, 1), 0);
+        CheeseHill again = told(1, 1);
+        DUE.is("27: asked", again.waits(1, 99), 98);
+        DUE.is("27: asked again: all are there at first", again.waits(1, 99), 98);
+        DUE.is("27: asked otherwise", again.waits(2, 5), 0);
     }
 
     // "(NO: more HURT in a RUN than a)": -20
@@ -381,6 +386,15 @@ public final class RunsEdgesTest {
         for (int n = 0; n <= 9; n++) {
             DUE.is("28: who has fallen draws no more, " + n, x.drawn(3, n), due[n]);
         }
+        CheeseHill turned = new CheeseHill();
+        turned.hill(1, 6);
+        for (int i = 0; i < 6; i++) {
+            turned.put(0, 0, i, i == 5 ? 9 : 0);
+            turned.runner(i == 5 ? 2 : 0, i, 0);
+        }
+        // five of pace 0, the sixth of 11: the sixth of 27, 27, 5, 32, 22, 36, the twelfth is 6
+        DUE.is("28: the last one, one run", turned.drawn(3, 1), 6);
+        DUE.is("28: the last one, two runs", turned.drawn(3, 2), 5);
         CheeseHill two = new CheeseHill();
         two.hill(2, 1);
         two.put(0, 0, 0, 9);

@@ -137,6 +137,14 @@ public final class TextEdgesTest {
             CheeseHill y = with(s, "hill 3 2;runner 1 1 1;").make();
             y.read();
             TWINS.alike("9: nothing is left of a fault [" + s + "]", x, y);
+            TWINS.asks("9: a fault behind a good one: all stays", () -> {
+                CheeseHill z = with(s, "hill 3 2;runner 1 1 1;line 0 2 2;ground 1 1 1;").make();
+                z.read();
+                z.run();
+                z.clear();
+                Due.type(z, "hill 2 3;slope 0 0 9;ground 0 0 1;runner 4 2 99;line 0 0 1;line 0 0 3;");
+                return z;
+            }, CheeseHill::read, -78);
         }
     }
 
@@ -217,7 +225,7 @@ public final class TextEdgesTest {
 
     // "a word that is none"
     private static void wordsThatAreNone() {
-        String[] none = {"a", "z", "h", "hi", "hil", "hills", "hilll", "ill", "hull", "hila", "hilz", "slope", "ground", "runner", "line",
+        String[] none = {"a", "z", "h", "hi", "hil", "hills", "hilll", "ill", "bill", "hull", "hila", "hilz", "slope", "ground", "runner", "line",
             "hillslope", "abcdefghijklmnopqrstuvwxyz"};
         for (String word : none) {
             fault(word + " 2 2;", 0);
@@ -234,6 +242,7 @@ public final class TextEdgesTest {
             faultBehind(good, "a" + item + behind, 0);
             faultBehind(good, item + item + behind, 0);
             faultBehind(good, item.substring(0, item.length() - 1) + "z" + behind, 0);
+            faultBehind(good, "z" + item.substring(1) + behind, 0);
             faultBehind(good, " " + item.toUpperCase() + behind, 1);
             // a word that ends too early is one that is none
             faultBehind(good, item.substring(0, 2), 0);

@@ -70,6 +70,10 @@ public final class WildTest {
         int mixtures = (int) Math.pow(EDGES.length, many);
         int step = mixtures > 20000 ? 37 : 1;
         for (int n = 0; n < mixtures; n += step) {
+            // An object answers for 512 calls: some 160 make it, 9 try each mixture.
+            if (n / step % 30 == 0) {
+                x = made(state);
+            }
             Object[] arguments = new Object[many];
             StringBuilder told = new StringBuilder(m.getName() + "(");
             int rest = n;
